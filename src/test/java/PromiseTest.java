@@ -121,7 +121,7 @@ public final class PromiseTest {
     }
 
     private static void promise2NodeRefused() {
-        TrajectoryCheck x = small();
+        TrajectoryCheck x = Sample.small();
         int[] before = look(x);
         due("node(-1, 0, 0)", x.node(-1, 0, 0), BAD_ARG);
         due("node(6, 0, 0)", x.node(6, 0, 0), BAD_ARG);
@@ -212,7 +212,7 @@ public final class PromiseTest {
     }
 
     private static void promise3ConnectRefused() {
-        TrajectoryCheck x = small();
+        TrajectoryCheck x = Sample.small();
         int[] before = look(x);
         due("connect: an input", x.connect(0, 0), BAD_ARG);
         due("connect: a gate", x.connect(2, 0), BAD_ARG);
@@ -272,7 +272,7 @@ public final class PromiseTest {
 
     private static void promise4ItemRefused() {
         for (int claimed = 0; claimed <= 1; claimed++) {
-            TrajectoryCheck x = small();
+            TrajectoryCheck x = Sample.small();
             int[] before = look(x);
             due("item: moment 4", x.item(claimed, 4, 0, 0, 0), BAD_ARG);
             due("item: moment -1", x.item(claimed, -1, 0, 0, 0), BAD_ARG);
@@ -368,7 +368,7 @@ public final class PromiseTest {
     }
 
     private static void promise5DropRefused() {
-        TrajectoryCheck x = small();
+        TrajectoryCheck x = Sample.small();
         int[] before = look(x);
         due("drop: no assumed item 2", x.drop(ASSUMED, 2), NONE);
         due("drop: no claimed item 3", x.drop(CLAIMED, 3), NONE);
@@ -407,7 +407,7 @@ public final class PromiseTest {
     }
 
     private static void promise7ValueRefused() {
-        TrajectoryCheck x = small();
+        TrajectoryCheck x = Sample.small();
         int[] before = look(x);
         due("value: moment 4", x.value(4, 0, 0), BAD_ARG);
         due("value: moment -1", x.value(-1, 0, 0), BAD_ARG);
@@ -701,7 +701,7 @@ public final class PromiseTest {
     }
 
     private static void objectsApart() {
-        TrajectoryCheck x = small();
+        TrajectoryCheck x = Sample.small();
         int[] before = look(x);
         TrajectoryCheck y = new TrajectoryCheck();
         y.node(LATCH, 0, 0);
@@ -711,22 +711,7 @@ public final class PromiseTest {
         unchanged("objects apart", x, before);
     }
 
-    /** An input, a latch and a gate that it is connected to, two assumed items and three claimed ones. */
-    private static TrajectoryCheck small() {
-        TrajectoryCheck x = new TrajectoryCheck();
-        x.node(INPUT, 0, 0);
-        x.node(LATCH, 0, 0);
-        x.node(XOR, 0, 1);
-        x.connect(1, 2);
-        x.item(ASSUMED, 0, 0, 0, 1);
-        x.item(ASSUMED, 0, 1, 2, ALWAYS);
-        x.item(CLAIMED, 0, 2, 3, 4);
-        x.item(CLAIMED, 1, 1, 0, not(2));
-        x.item(CLAIMED, 2, 1, 5, 5);
-        return x;
-    }
-
-    /** What an object made by small answers to questions on all that it holds. */
+    /** What an object made by Sample.small answers to questions on all that it holds. */
     private static int[] look(TrajectoryCheck x) {
         int[] answers = new int[160];
         int n = 0;
