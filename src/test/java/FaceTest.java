@@ -1,13 +1,17 @@
+import java.io.IOException;
 import java.lang.reflect.Constructor;
 import java.lang.reflect.Field;
 import java.lang.reflect.Method;
 import java.lang.reflect.Modifier;
+import java.nio.file.Files;
+import java.nio.file.Path;
 import java.util.Arrays;
 import java.util.Set;
 import java.util.TreeSet;
 
 /** The public face is the document's, and the shape of the class keeps to LANGUAGE.md. */
 public final class FaceTest {
+    private static final Path DOCUMENT = Path.of("../shared/DOC.md");
     private static final String[] FACE = {
         "public static final int BAD_ARG",
         "public static final int FULL",
@@ -29,13 +33,35 @@ public final class FaceTest {
         "public int TrajectoryCheck.cone(int)",
     };
 
-    public static void main(String[] args) {
+    public static void main(String[] args) throws IOException {
+        faceOfTheDocument();
         constants();
         visibleMembers();
         shapeOfClass();
         shapeOfFields();
         shapeOfMethods();
         Due.end();
+    }
+
+    /** The list above is the document's code block. */
+    private static void faceOfTheDocument() throws IOException {
+        String block = Files.readString(DOCUMENT).split("```")[1];
+        Set<String> shown = new TreeSet<>();
+        for (String line : block.lines().map(String::strip).toList()) {
+            if (line.startsWith("public ") && line.endsWith(";")) {
+                shown.add(asReflectionTells(line));
+            }
+        }
+        Set<String> listed = new TreeSet<>(Arrays.asList(FACE));
+        holds("the document's face is " + listed + ", not " + shown, shown.equals(listed));
+    }
+
+    private static String asReflectionTells(String line) {
+        String member = line.replaceFirst("( = -?[0-9]+)?;$", "");
+        // The parameters of all methods are ints, so that their names are all that has to go.
+        String unnamed = member.replaceAll("int \\w+(?=[,)])", "int").replace(", ", ",");
+        boolean isMethod = unnamed.startsWith("public int ");
+        return isMethod ? unnamed.replaceFirst("public int ", "public int TrajectoryCheck.") : unnamed;
     }
 
     private static void constants() {
